@@ -20,6 +20,7 @@ public final class PromiseTest {
         end();
         lakeFaults();
         worthFaults();
+        fullTapes();
         text();
         place();
         worth();
@@ -194,7 +195,11 @@ public final class PromiseTest {
         due("feed of two more", y.feed(0x01010000, 0, 0, 0, 0), NONE);
         due("nothing came", y.count(4), 159);
         due("feed of one", y.feed(0, 0, 0x01000000, 0, 0), 160);
-        due("feed of one too many", y.feed(0, 0, 0, 0, 1), NONE);
+        for (int which = 0; which < 5; which++) {
+            int[] one = new int[5];
+            one[which] = 1;
+            due("feed of one too many", y.feed(one[0], one[1], one[2], one[3], one[4]), NONE);
+        }
         due("feed of nothing", y.feed(0, 0, 0, 0, 0), 160);
         due("a byte of 255 is a fault", y.fault(0), 0);
     }
@@ -240,6 +245,33 @@ public final class PromiseTest {
         for (Object[] row : bad) {
             due("'" + row[0] + "'", faultOf((String) row[0], 0), (Integer) row[1]);
         }
+    }
+
+    private static String filled(String text) {
+        return text + " ".repeat(160 - text.length());
+    }
+
+    private static void fullTapes() {
+        promise = 5;
+        TugLake x = lake(filled("pf7;").substring(0, 159) + "p");
+        due("a lake of 160 bytes", x.count(0), 2);
+        due("its fish", x.place(0, 3), 7);
+        tell(x, filled("y:f+").substring(0, 159) + "1");
+        due("a worth of 160 bytes", x.text(1), 0);
+        tell(x, filled("y:f+").substring(0, 159) + "2");
+        due("another one", x.text(1), 1);
+        x.worth(0);
+        due("the first one", x.place(0, 4), 8);
+        x.worth(1);
+        due("the other one", x.place(0, 4), 9);
+        promise = 4;
+        due("a fault at its end", faultOf(filled("p;p;"), 0), 160);
+        due("a fault at its last byte", faultOf(filled("p;p").substring(0, 159) + "p", 0), 159);
+        due("a fault at its end", faultOf(filled("y:1+"), 1), 160);
+        due("many clauses", faultOf("y:1;".repeat(39) + "y:22", 1), NONE);
+        due("many terms", faultOf("y:" + "1+".repeat(78) + "11", 1), NONE);
+        due("many atoms", faultOf("y:" + "1*".repeat(78) + "11", 1), NONE);
+        due("many truths", faultOf("y:" + "1=1|".repeat(38) + "1=1?22", 1), NONE);
     }
 
     private static void worthFaults() {
@@ -494,6 +526,9 @@ public final class PromiseTest {
         due("no such sign", x.answerTo(0, -1), NONE);
         TugLake y = lake("pw0f99;pf0;pw3f4;pw2f6");
         due("weight and fish count, the lowest of 12 and 12", y.answerTo(0, 0), 2);
+        TugLake z = lake("ps1;p;bk2t99");
+        z.tugs(100);
+        due("99 of 100 are less than all", z.answerTo(0, 0), 1);
     }
 
     private static void mean() {
