@@ -794,7 +794,9 @@ public final class TugLake {
         }
 
         final void need(int sign) {
-            if (!take(sign)) {
+            if (next() == sign) {
+                at++;
+            } else {
                 failAt(at);
             }
         }
@@ -1076,24 +1078,14 @@ public final class TugLake {
         }
 
         private boolean readUnit(int depth) {
-            int sign = next();
-            if (sign != '!' && sign != '(') {
-                return readComparison(depth);
-            }
-            if (depth >= NEST_MOST) {
-                fail();
-                return false;
-            }
-            pass();
-            if (sign == '!') {
+            if (depth < NEST_MOST && take('!')) {
                 return !readUnit(depth + 1);
             }
-            boolean holds = readCondition(depth + 1);
-            need(')');
-            return holds;
-        }
-
-        private boolean readComparison(int depth) {
+            if (depth < NEST_MOST && take('(')) {
+                boolean holds = readCondition(depth + 1);
+                need(')');
+                return holds;
+            }
             int left = readSum(depth);
             int sign = next();
             if (failed() || !isComparison(sign)) {
@@ -1147,8 +1139,7 @@ public final class TugLake {
             if (within(sign, '0', '9')) {
                 return number(4, 0, NUMBER_MOST);
             }
-            if (sign == '[' && depth < NEST_MOST) {
-                pass();
+            if (depth < NEST_MOST && take('[')) {
                 int sum = readSum(depth + 1);
                 need(']');
                 return sum;
