@@ -529,6 +529,12 @@ public final class PromiseTest {
         TugLake z = lake("ps1;p;bk2t99");
         z.tugs(100);
         due("99 of 100 are less than all", z.answerTo(0, 0), 1);
+        TugLake little = lake("pf0;ps1f1;bk2t1");
+        little.tugs(100);
+        due("1 of 100 is more than nothing", little.answerTo(0, 0), 1);
+        TugLake last = lake("p;ps1l3;bk4");
+        last.tugs(300);
+        due("the last look and sign", last.answerTo(3, 3), 1);
     }
 
     private static void mean() {
@@ -814,11 +820,21 @@ public final class PromiseTest {
         }
         due("a 41st", x.day(), NONE);
         due("days", x.count(10), 40);
+        int there = x.was(39, 0);
+        due("undo() of the 40th", x.undo(), 39);
+        x.day();
+        due("the same again", x.was(39, 0), there);
+        due("tugs and throws are as ahead of the 40th", 10 * x.count(5) + x.thrown(1, 1), 1202);
         fogAndThunderDays();
     }
 
     private static void fogAndThunderDays() {
         promise = 26;
+        TugLake z = lake(THREE);
+        z.tugs(120);
+        z.wet(24);
+        z.day();
+        due("24 is not below 24", z.was(0, 1), 1);
         TugLake x = lake(THREE);
         x.wet(0);
         x.tugs(2110);
@@ -836,6 +852,8 @@ public final class PromiseTest {
         TugLake y = lakeWith(THREE, "y:f*10");
         y.throwTo(1, 0, 2);
         due("what it is worth", y.day(), 100);
+        promise = 49;
+        due("what was caught on the first day", y.count(11), 100);
     }
 
     private static void wasAndUndo() {
@@ -1036,6 +1054,9 @@ public final class PromiseTest {
         due("nothing is lost: by chance", x.cases(1), 0);
         x.set(0, true);
         due("in fog", x.cases(0), 1);
+        x.set(0, false);
+        x.wet(99);
+        due("1 of 100 is by chance, too", x.cases(1), 6);
         due("cases(2)", x.cases(2), NONE);
         due("cases(-1)", x.cases(-1), NONE);
         due("no weight", lake("pw0;p").cases(0), 0);
