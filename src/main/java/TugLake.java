@@ -801,7 +801,9 @@ public final class TugLake {
             }
         }
 
+        /** Blanks may stand anywhere, so what is wrong is the sign behind them. */
         final void fail() {
+            next();
             failAt(at);
         }
 

@@ -71,7 +71,7 @@ public final class ModelTest {
 
         static String lake(Random random) {
             List<String> clauses = new ArrayList<>();
-            int places = 2 + random.nextInt(5);
+            int places = random.nextInt(3) == 0 ? 6 : 2 + random.nextInt(5);
             boolean zero = random.nextInt(3) == 0;
             for (int i = 0; i < places; i++) {
                 StringBuilder clause = new StringBuilder("p");
@@ -171,12 +171,16 @@ public final class ModelTest {
             if (random.nextInt(6) == 0) {
                 spoilt.setLength(random.nextInt(spoilt.length() + 1));
             }
+            while (random.nextInt(3) == 0) {
+                spoilt.append(new String[] {" ", ";", "p", "b", ";p", "; p ", ";b", " ; b", "y:1", ";y:f", " 1", "x"}[random.nextInt(12)]);
+            }
             return spoilt.length() > 160 ? spoilt.substring(0, 160) : spoilt.toString();
         }
 
         static String noise(Random random) {
-            String signs = random.nextBoolean() ? "p;bkt019 w" : "y:f=1?[(!)];p";
-            StringBuilder text = new StringBuilder(random.nextBoolean() ? "" : random.nextBoolean() ? "p;p" : "y:");
+            String signs = random.nextBoolean() ? "p;bkt019 w" : "y:f=1?[(!)] ;p";
+            String[] starts = {"", "p;p", "y:", "p;p;p;p;p;p", "b;p;p;p;p;p;p", "y:f=1?", "y:!!!!!", "y:[[[[[", "y:(([!", "y:1;y:p>"};
+            StringBuilder text = new StringBuilder(starts[random.nextInt(starts.length)]);
             for (int i = random.nextInt(14); i > 0; i--) {
                 text.append(signs.charAt(random.nextInt(signs.length())));
             }
