@@ -25,6 +25,13 @@ public final class ModelTest {
         for (long seed = first; seed < first + 100L * runs && wrong < 20; seed++) {
             faults(new Random(seed));
         }
+        TugLake lake = new TugLake();
+        for (String start : new String[] {"", "p;p;p;p;p;p;b", "p;p;p;p;p;p", "b;p", "pw0;p", "bk", "p;pw"}) {
+            allBehind(lake, start, "p;b wk05", 4, 0);
+        }
+        for (String start : new String[] {"", "y:", "y:!!!!", "y:[[[[", "y:f=1", "y:1;", "y:(1=1)"}) {
+            allBehind(lake, start, "y:?!(=|+[])f1; ", 3, 1);
+        }
         System.out.println(calls + " calls, " + wrong + " answers are not as the model's");
         if (wrong != 0) {
             System.exit(1);
@@ -36,6 +43,16 @@ public final class ModelTest {
         if (got != want) {
             wrong++;
             System.out.println(call + " answered " + got + ", due is " + want);
+        }
+    }
+
+    // All texts with this start and at most so many of these signs behind it.
+    static void allBehind(TugLake lake, String text, String signs, int most, int sort) {
+        lake.end(0);
+        Texts.feed(lake, text);
+        due("fault of " + text, lake.fault(sort), sort == 0 ? Grammar.lakeFault(text) : Grammar.worthFault(text));
+        for (int i = 0; i < signs.length() && most > 0 && wrong < 20; i++) {
+            allBehind(lake, text + signs.charAt(i), signs, most - 1, sort);
         }
     }
 
