@@ -1424,6 +1424,7 @@ public final class TugLake {
 
         long top = 0;
         int topRow = 0;
+        // What the chances of WORDS are parts of; those of SIGNS are hundredths.
         long scale = 1;
         private final Lake lake;
         private final State state;
@@ -1442,7 +1443,6 @@ public final class TugLake {
 
         void bySigns(int signs, boolean fog, boolean thunder) {
             prepare(Math.min(SIGNS_MOST, signs), fog, thunder);
-            scale = 100;
             for (int sent = 0; sent < size; sent++) {
                 chances[sent * WORDS_MOST] = sent == 0 ? 100 : state.lost;
                 for (int came = 1; came < size; came++) {

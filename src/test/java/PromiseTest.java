@@ -1,19 +1,5 @@
-import java.util.NoSuchElementException;
-
 /** Promise by promise: ordinary inputs, edges and wrong inputs, with answers reckoned by hand from the document. */
-public final class PromiseTest {
-    private static final int NONE = TugLake.NONE;
-    private static final int HIDDEN = TugLake.HIDDEN;
-    private static final int FAR = Integer.MAX_VALUE;
-    private static final int LOW = Integer.MIN_VALUE;
-
-    /** Place 0: weight 2, sound 1, look 0, fish 20; 1: 1, 2, 1, 30; 2: 3, 1, 1, 10; three signs, 25 of 100 lost. */
-    private static final String THREE = "pw2s1f20;pw1s2l1f30;pw3s1l1f10;bk3t25";
-
-    private static int promise = 0;
-    private static int checks = 0;
-    private static int wrong = 0;
-
+public final class PromiseTest extends Bench {
     public static void main(String[] args) {
         newObject();
         feed();
@@ -57,70 +43,7 @@ public final class PromiseTest {
         copy();
         imageAndBack();
         count();
-        System.out.println(checks + " checks, " + wrong + " wrong");
-        if (wrong != 0) {
-            System.exit(1);
-        }
-    }
-
-    private static void due(String what, long got, long want) {
-        checks++;
-        if (got != want) {
-            wrong++;
-            System.out.println("promise " + promise + ": " + what + " answered " + got + ", due is " + want);
-        }
-    }
-
-    private static void yes(String what, boolean got) {
-        due(what, got ? 1 : 0, 1);
-    }
-
-    private static void no(String what, boolean got) {
-        due(what, got ? 1 : 0, 0);
-    }
-
-    private static int[] chunk(String text, int from) {
-        int[] five = new int[5];
-        for (int i = 0; i < 20 && from + i < text.length(); i++) {
-            five[i / 4] |= text.charAt(from + i) << (24 - 8 * (i % 4));
-        }
-        return five;
-    }
-
-    private static void tell(TugLake x, String text) {
-        for (int from = 0; from < text.length(); from += 20) {
-            int[] five = chunk(text, from);
-            x.feed(five[0], five[1], five[2], five[3], five[4]);
-        }
-    }
-
-    private static TugLake lake(String text) {
-        TugLake x = new TugLake();
-        tell(x, text);
-        x.text(0);
-        return x;
-    }
-
-    private static TugLake lakeWith(String text, String worth) {
-        TugLake x = lake(text);
-        tell(x, worth);
-        x.worth(x.text(1));
-        return x;
-    }
-
-    private static int faultOf(String text, int sort) {
-        TugLake x = new TugLake();
-        tell(x, text);
-        return x.fault(sort);
-    }
-
-    private static boolean throwsNone(TugLake x, int place, int what) {
-        try {
-            x.place(place, what);
-            return false;
-        } catch (NoSuchElementException e) {
-            return true;
-        }
+        close();
     }
 
     // What an object without a LAKE answers.
@@ -249,27 +172,23 @@ public final class PromiseTest {
         }
     }
 
-    private static String filled(String text) {
-        return text + " ".repeat(160 - text.length());
-    }
-
     private static void fullTapes() {
         promise = 5;
-        TugLake x = lake(filled("pf7;").substring(0, 159) + "p");
+        TugLake x = lake(filled("pf7;", 160).substring(0, 159) + "p");
         due("a lake of 160 bytes", x.count(0), 2);
         due("its fish", x.place(0, 3), 7);
-        tell(x, filled("y:f+").substring(0, 159) + "1");
+        tell(x, filled("y:f+", 160).substring(0, 159) + "1");
         due("a worth of 160 bytes", x.text(1), 0);
-        tell(x, filled("y:f+").substring(0, 159) + "2");
+        tell(x, filled("y:f+", 160).substring(0, 159) + "2");
         due("another one", x.text(1), 1);
         x.worth(0);
         due("the first one", x.place(0, 4), 8);
         x.worth(1);
         due("the other one", x.place(0, 4), 9);
         promise = 4;
-        due("a fault at its end", faultOf(filled("p;p;"), 0), 160);
-        due("a fault at its last byte", faultOf(filled("p;p").substring(0, 159) + "p", 0), 159);
-        due("a fault at its end", faultOf(filled("y:1+"), 1), 160);
+        due("a fault at its end", faultOf(filled("p;p;", 160), 0), 160);
+        due("a fault at its last byte", faultOf(filled("p;p", 160).substring(0, 159) + "p", 0), 159);
+        due("a fault at its end", faultOf(filled("y:1+", 160), 1), 160);
         due("many clauses", faultOf("y:1;".repeat(39) + "y:22", 1), NONE);
         due("many terms", faultOf("y:" + "1+".repeat(78) + "11", 1), NONE);
         due("many atoms", faultOf("y:" + "1*".repeat(78) + "11", 1), NONE);
