@@ -337,7 +337,7 @@ public final class TugLake {
     }
 
     private boolean canBeMeant(int row) {
-        for (int i = 0; i < seenMany; i++) {
+        for (int i = 0; i < seenMany && i < SEEN_MOST; i++) {
             int shoal = seenShoal[i];
             int sign = signOf(row, lake.heard(shoal, now.thunder));
             if (placeOf(now.throwing, lake.seen(shoal, now.fog), sign) != seenThrow[i]) {
@@ -381,9 +381,9 @@ public final class TugLake {
             return NONE;
         }
         if (what == 0) {
-            return now.where[day];
+            return now.shoalOn(day);
         }
-        return what == 1 ? now.came[day] : now.caught[day];
+        return what == 1 ? now.cameOn(day) : now.caughtOn(day);
     }
 
     public int undo() {
@@ -400,8 +400,8 @@ public final class TugLake {
         }
         int sum = 0;
         for (int day = 0; day < now.days; day++) {
-            if (now.where[day] == place) {
-                sum += what == 0 ? now.caught[day] : 1;
+            if (now.shoalOn(day) == place) {
+                sum += what == 0 ? now.caughtOn(day) : 1;
             }
         }
         return sum;
@@ -413,7 +413,7 @@ public final class TugLake {
         }
         int often = 0;
         for (int day = 0; day < now.days; day++) {
-            if (now.came[day] == sign && lake.told(now.where[day], SOUND) == sound) {
+            if (now.cameOn(day) == sign && lake.told(now.shoalOn(day), SOUND) == sound) {
                 often++;
             }
         }
@@ -427,7 +427,7 @@ public final class TugLake {
         int most = 0;
         int empty = 0;
         for (int day = 0; day < now.days; day++) {
-            empty = now.caught[day] == 0 ? empty + 1 : 0;
+            empty = now.caughtOn(day) == 0 ? empty + 1 : 0;
             most = Math.max(most, empty);
         }
         return most;
@@ -594,7 +594,7 @@ public final class TugLake {
     private int caughtInAll() {
         int sum = 0;
         for (int day = 0; day < now.days; day++) {
-            sum += now.caught[day];
+            sum += now.caughtOn(day);
         }
         return sum;
     }
@@ -1234,9 +1234,9 @@ public final class TugLake {
         boolean thunder = false;
         int lost = 0;
         int days = 0;
-        final int[] where = new int[DAYS_MOST];
-        final int[] came = new int[DAYS_MOST];
-        final int[] caught = new int[DAYS_MOST];
+        private final int[] where = new int[DAYS_MOST];
+        private final int[] came = new int[DAYS_MOST];
+        private final int[] caught = new int[DAYS_MOST];
         private final int[] tuggingAhead = new int[DAYS_MOST];
         private final long[] throwingAhead = new long[DAYS_MOST];
         private final long[] drawsAhead = new long[DAYS_MOST];
@@ -1270,6 +1270,18 @@ public final class TugLake {
                 caught[days] = caughtThen;
                 days++;
             }
+        }
+
+        int shoalOn(int day) {
+            return within(day, 0, DAYS_MOST - 1) ? where[day] : NONE;
+        }
+
+        int cameOn(int day) {
+            return within(day, 0, DAYS_MOST - 1) ? came[day] : NONE;
+        }
+
+        int caughtOn(int day) {
+            return within(day, 0, DAYS_MOST - 1) ? caught[day] : NONE;
         }
 
         void takeBackDay() {

